@@ -1609,7 +1609,7 @@ public final class RowAuditor {
         private final Books books;
         private final View view;
         // By set and HOUSE reached: how many ways.
-        private final int[] ways = new int[SETS * HOUSES];
+        private final int[] waysTo = new int[SETS * HOUSES];
         // By HOUSE reached: the sets that have ways, and how many sets those are.
         private final int[] sets = new int[HOUSES * SETS / 2];
         private final int[] sizes = new int[HOUSES];
@@ -1680,28 +1680,28 @@ public final class RowAuditor {
 
         private int waysBy(int set, int house) {
             int index = set * HOUSES + house;
-            return within(index, 0, ways.length - 1) ? ways[index] : 0;
+            return within(index, 0, waysTo.length - 1) ? waysTo[index] : 0;
         }
 
         private void addWays(int set, int house, int more) {
             int index = set * HOUSES + house;
-            if (!within(house, 0, HOUSES - 1) || !within(index, 0, ways.length - 1)) {
+            if (!within(house, 0, HOUSES - 1) || !within(index, 0, waysTo.length - 1)) {
                 return;
             }
             // A set holds the HOUSE reached, so half of all sets are enough for each HOUSE.
-            if (ways[index] == 0 && sizes[house] < SETS / 2) {
+            if (waysTo[index] == 0 && sizes[house] < SETS / 2) {
                 sets[house * SETS / 2 + sizes[house]] = set;
                 sizes[house]++;
             }
-            ways[index] = Math.min(MOST_COUNTED, ways[index] + more);
+            waysTo[index] = Math.min(MOST_COUNTED, waysTo[index] + more);
         }
 
         private void forget() {
             for (int house = 0; house < HOUSES; house++) {
                 for (int k = 0; k < sizes[house]; k++) {
                     int index = setAt(house, k) * HOUSES + house;
-                    if (within(index, 0, ways.length - 1)) {
-                        ways[index] = 0;
+                    if (within(index, 0, waysTo.length - 1)) {
+                        waysTo[index] = 0;
                     }
                 }
                 sizes[house] = 0;
