@@ -135,7 +135,7 @@ public final class RowAuditor {
         if (!books.isRow(i) || !within(sum, 0, MOST_SUM) || books.mendings >= MENDINGS) {
             return false;
         }
-        lookNow();
+        view.asOf(books.today);
         if (!view.isKnown(i)) {
             return false;
         }
@@ -251,7 +251,7 @@ public final class RowAuditor {
             return NONE;
         }
         taped = 0;
-        lookNow();
+        view.asOf(books.today);
         int all = 0;
         for (int k = 0; k < n && k < TAPE; k++) {
             if (!view.isKnown(tape[k]) || isTapedBefore(k)) {
@@ -300,7 +300,7 @@ public final class RowAuditor {
         if (flow == null) {
             flow = new Flow(books, view);
         }
-        lookNow();
+        view.asOf(books.today);
         return flow.coinsOf(a, b, most);
     }
 
@@ -311,7 +311,7 @@ public final class RowAuditor {
         if (rounder == null) {
             rounder = new Rounder(books, view);
         }
-        lookNow();
+        view.asOf(books.today);
         return rounder.countRounds(days, hundredths);
     }
 
@@ -340,7 +340,7 @@ public final class RowAuditor {
         if (fitter == null) {
             fitter = new Fitter(books, view, facts);
         }
-        lookNow();
+        view.asOf(books.today);
         fitter.prepare(chains.get(c), days);
         return true;
     }
@@ -372,7 +372,7 @@ public final class RowAuditor {
         if (marking == null) {
             return false;
         }
-        lookNow();
+        view.asOf(books.today);
         Arrays.fill(dealt, 0);
         for (int place = 0; place < view.size; place++) {
             int i = view.rowAt(place);
@@ -435,7 +435,7 @@ public final class RowAuditor {
             return NO_SUCH_SUM;
         }
         int around = thingsAround(ownerOf(k, false));
-        lookNow();
+        view.asOf(books.today);
         int sum = 0;
         for (int place = 0; place < view.size; place++) {
             int i = view.rowAt(place);
@@ -476,7 +476,7 @@ public final class RowAuditor {
         if (!within(n, 1, DRAWS) || !within(seed, 0, 65535) || what < 0) {
             return NONE;
         }
-        lookNow();
+        view.asOf(books.today);
         if (view.size == 0) {
             return NONE;
         }
@@ -549,7 +549,7 @@ public final class RowAuditor {
         if (answers[k] == NONE) {
             return askedDays[k] < books.today ? 1 : 0;
         }
-        lookNow();
+        view.asOf(books.today);
         return view.isKnown(askedRows[k]) && view.sumOf(askedRows[k]) == answers[k] ? 3 : 2;
     }
 
@@ -561,7 +561,7 @@ public final class RowAuditor {
         if (!isHand(hand)) {
             return NONE;
         }
-        lookNow();
+        view.asOf(books.today);
         facts.unbelieved = hand;
         int size = laws.countFindings();
         facts.unbelieved = NONE;
@@ -580,7 +580,7 @@ public final class RowAuditor {
         if (!within(what, 0, 1)) {
             return NONE;
         }
-        lookNow();
+        view.asOf(books.today);
         int size = 0;
         for (int place = 0; place < view.size; place++) {
             int i = view.rowAt(place);
@@ -636,10 +636,6 @@ public final class RowAuditor {
         return within(i, 0, texts.size() - 1) ? texts.get(i).clauses.size() : NONE;
     }
 
-    private void lookNow() {
-        view.asOf(books.today);
-    }
-
     private static boolean within(int value, int least, int most) {
         return value >= least && value <= most;
     }
@@ -670,15 +666,11 @@ public final class RowAuditor {
         private final int[] mendedDays = new int[MENDINGS];
 
         boolean isHouse(int house) {
-            return within(house, 0, houses - 1) && house < HOUSES;
+            return house >= 0 && house < houses;
         }
 
         boolean isRow(int i) {
-            return within(i, 0, rows - 1) && i < ROWS;
-        }
-
-        private boolean isMending(int m) {
-            return within(m, 0, mendings - 1) && m < MENDINGS;
+            return i >= 0 && i < rows;
         }
 
         int addHouse(int sum) {
@@ -691,7 +683,7 @@ public final class RowAuditor {
         }
 
         int atFirst(int house) {
-            return isHouse(house) ? firstSums[house] : 0;
+            return house >= 0 && house < houses ? firstSums[house] : 0;
         }
 
         int addRow(int[] told) {
@@ -707,13 +699,11 @@ public final class RowAuditor {
         /** The newest ROW has the highest number, so it goes behind all of its DAY and HOUR. */
         private void putInOrder(int i) {
             int place = i;
-            while (place > 0 && place < ROWS && isLater(order[place - 1], i)) {
+            while (place > 0 && isLater(order[place - 1], i)) {
                 order[place] = order[place - 1];
                 place--;
             }
-            if (place < ROWS) {
-                order[place] = i;
-            }
+            order[place] = i;
         }
 
         private boolean isLater(int i, int j) {
@@ -723,11 +713,11 @@ public final class RowAuditor {
 
         /** The ROW at a place of THEIR ORDER of all that were ever told. */
         int rowAt(int place) {
-            return isRow(place) ? order[place] : NONE;
+            return place >= 0 && place < rows ? order[place] : NONE;
         }
 
         int cell(int i, int what) {
-            return isRow(i) && within(what, 0, WIDTH - 1) ? cells[i * WIDTH + what] : NONE;
+            return i >= 0 && i < rows && what >= 0 && what < WIDTH ? cells[i * WIDTH + what] : NONE;
         }
 
         void setCleared(int i) {
@@ -746,15 +736,15 @@ public final class RowAuditor {
         }
 
         int mendedRow(int m) {
-            return isMending(m) ? mendedRows[m] : NONE;
+            return m >= 0 && m < mendings ? mendedRows[m] : NONE;
         }
 
         int mendedSum(int m) {
-            return isMending(m) ? mendedSums[m] : 0;
+            return m >= 0 && m < mendings ? mendedSums[m] : 0;
         }
 
         int mendedDay(int m) {
-            return isMending(m) ? mendedDays[m] : NONE;
+            return m >= 0 && m < mendings ? mendedDays[m] : NONE;
         }
 
         int payeeOf(int i) {
@@ -786,8 +776,14 @@ public final class RowAuditor {
         private final Books books;
         // By number of ROW; 0 says that it is not KNOWN, for no KNOWN SUM is 0.
         private final int[] sums = new int[ROWS];
-        private final int[] order = new int[ROWS];
         private final int[] places = new int[ROWS];
+        private final int[] order = new int[ROWS];
+        // By number of ROW, what the letters n and t ask for.
+        private final int[] crowds = new int[ROWS];
+        private final int[] turnovers = new int[ROWS];
+        // Of one DAY, by HAND and by KIND and PAYEE; all 0 between two DAYS.
+        private final int[] byHand = new int[HANDS];
+        private final int[] byPayee = new int[2 * PAYEES];
 
         View(Books books) {
             this.books = books;
@@ -795,19 +791,30 @@ public final class RowAuditor {
 
         void asOf(int t) {
             day = t;
-            for (int i = 0; i < books.rows && i < ROWS; i++) {
-                sums[i] = books.cell(i, TOLD) <= t ? books.cell(i, SUM) : 0;
+            readSums();
+            size = 0;
+            for (int place = 0; place < books.rows; place++) {
+                append(books.rowAt(place));
             }
-            // NOW never goes back, so the first MENDING behind t ends those told by t.
-            for (int m = 0; m < books.mendings && books.mendedDay(m) <= t; m++) {
+            int start = 0;
+            for (int end = 1; end <= size; end++) {
+                if (end == size || dayAt(end) != dayAt(start)) {
+                    countDay(start, end);
+                    start = end;
+                }
+            }
+        }
+
+        private void readSums() {
+            for (int i = 0; i < books.rows; i++) {
+                sums[i] = books.cell(i, TOLD) <= day ? books.cell(i, SUM) : 0;
+            }
+            // NOW never goes back, so the first MENDING behind the DAY ends those told by it.
+            for (int m = 0; m < books.mendings && books.mendedDay(m) <= day; m++) {
                 int i = books.mendedRow(m);
                 if (books.isRow(i)) {
                     sums[i] = books.mendedSum(m);
                 }
-            }
-            size = 0;
-            for (int place = 0; place < books.rows; place++) {
-                append(books.rowAt(place));
             }
         }
 
@@ -819,20 +826,68 @@ public final class RowAuditor {
             }
         }
 
+        private int dayAt(int place) {
+            return books.cell(rowAt(place), DAY);
+        }
+
+        private void countDay(int start, int end) {
+            for (int place = start; place < end; place++) {
+                countRow(rowAt(place), 1);
+            }
+            for (int place = start; place < end; place++) {
+                int i = rowAt(place);
+                int hand = books.cell(i, HAND);
+                int group = groupOf(i);
+                if (isKnown(i)) {
+                    crowds[i] = within(hand, 0, HANDS - 1) ? byHand[hand] : 0;
+                    turnovers[i] = within(group, 0, byPayee.length - 1) ? byPayee[group] : 0;
+                }
+            }
+            for (int place = start; place < end; place++) {
+                countRow(rowAt(place), -1);
+            }
+        }
+
+        /** Takes a ROW to those of its DAY (times 1), or away again (times -1). */
+        private void countRow(int i, int times) {
+            int hand = books.cell(i, HAND);
+            if (within(hand, 0, HANDS - 1)) {
+                byHand[hand] += times;
+            }
+            int group = groupOf(i);
+            if (within(group, 0, byPayee.length - 1)) {
+                byPayee[group] += times * sumOf(i);
+            }
+        }
+
+        /** SALES and PAYS of one PAYEE are a group each; other ROWS have none. */
+        private int groupOf(int i) {
+            int kind = books.cell(i, KIND);
+            return kind == SALE || kind == PAY ? kind * PAYEES + books.cell(i, OTHER) : NONE;
+        }
+
         boolean isKnown(int i) {
-            return books.isRow(i) && sums[i] > 0;
+            return i >= 0 && i < ROWS && sums[i] > 0;
         }
 
         int sumOf(int i) {
-            return isKnown(i) ? sums[i] : 0;
+            return i >= 0 && i < ROWS ? sums[i] : 0;
         }
 
         int placeOf(int i) {
-            return isKnown(i) ? places[i] : NONE;
+            return i >= 0 && i < ROWS && sums[i] > 0 ? places[i] : NONE;
+        }
+
+        int crowdOf(int i) {
+            return i >= 0 && i < ROWS ? crowds[i] : 0;
+        }
+
+        int turnoverOf(int i) {
+            return i >= 0 && i < ROWS ? turnovers[i] : 0;
         }
 
         int rowAt(int place) {
-            return within(place, 0, size - 1) && place < ROWS ? order[place] : NONE;
+            return place >= 0 && place < size ? order[place] : NONE;
         }
 
         int total() {
@@ -961,7 +1016,12 @@ public final class RowAuditor {
                 if (k == CLAUSES && isClauseLetter(letter)) {
                     fail(TOO_MANY, at);
                 }
-                rule.clauses.add(letter == Clause.STRIKES ? striking() : judging(letter));
+                if (letter == Clause.STRIKES) {
+                    rule.clauses.add(striking());
+                } else {
+                    want(letter == Clause.LETS ? Clause.LETS : Clause.BREAKS);
+                    rule.clauses.add(new Clause(letter, enclosed(), NONE, NONE));
+                }
                 if (!take(';')) {
                     break;
                 }
@@ -997,11 +1057,6 @@ public final class RowAuditor {
             want('.');
             int targetClause = numberUpTo(CLAUSES - 1);
             return new Clause(Clause.STRIKES, new int[0], target, targetClause);
-        }
-
-        private Clause judging(int letter) {
-            want(letter == Clause.LETS ? Clause.LETS : Clause.BREAKS);
-            return new Clause(letter, enclosed(), NONE, NONE);
         }
 
         /** A C with the ( and the ) of its CLAUSE or STEP. */
@@ -1153,7 +1208,7 @@ public final class RowAuditor {
         }
 
         private static boolean isDigit(int sign) {
-            return within(sign, '0', '9');
+            return sign >= '0' && sign <= '9';
         }
 
         /** Takes a sign that opens, where so many are open already, or finds it one too many. */
@@ -1167,7 +1222,7 @@ public final class RowAuditor {
         }
 
         private int peek() {
-            return fault == 0 && within(at, 0, length - 1) ? text[at] : END;
+            return fault == 0 && at >= 0 && at < length ? text[at] : END;
         }
 
         private boolean take(int sign) {
@@ -1179,7 +1234,9 @@ public final class RowAuditor {
         }
 
         private void want(int sign) {
-            if (!take(sign)) {
+            if (peek() == sign) {
+                at++;
+            } else {
                 fail(MISPLACED, at);
             }
         }
@@ -1220,11 +1277,9 @@ public final class RowAuditor {
         int unbelieved = NONE;
         private final Books books;
         private final View view;
+        // In the order of the parser's LETTERS.
+        private final long[] letters = new long[13];
         private final long[] stack = new long[RULE_BYTES];
-        private int faced = NONE;
-        // Dear to count, so each is counted once for a faced ROW, and only if it is asked for.
-        private int crowd = NONE;
-        private int turnover = NONE;
 
         Facts(Books books, View view) {
             this.books = books;
@@ -1232,9 +1287,20 @@ public final class RowAuditor {
         }
 
         void face(int i) {
-            faced = i;
-            crowd = NONE;
-            turnover = NONE;
+            int leave = books.cell(i, LEAVE);
+            letters[0] = books.cell(i, KIND);
+            letters[1] = view.sumOf(i);
+            letters[2] = books.cell(i, DAY);
+            letters[3] = books.cell(i, HOUR);
+            letters[4] = books.cell(i, HAND);
+            letters[5] = leave == unbelieved ? NONE : leave;
+            letters[6] = books.cell(i, HOUSE);
+            letters[7] = books.houseInto(i);
+            letters[8] = books.payeeOf(i);
+            letters[9] = books.cell(i, PAPER);
+            letters[10] = books.cell(i, TOLD) - books.cell(i, DAY);
+            letters[11] = view.crowdOf(i);
+            letters[12] = view.turnoverOf(i);
         }
 
         /** Leaps only go forward, so each operation is done once at most. */
@@ -1271,6 +1337,10 @@ public final class RowAuditor {
             return top == 1 && stack[0] != 0;
         }
 
+        private long letter(int which) {
+            return which >= 0 && which < letters.length ? letters[which] : 0;
+        }
+
         private static boolean isRefused(int operation, long divisor) {
             return divisor == 0 && (operation == Parser.THROUGH || operation == Parser.REST);
         }
@@ -1286,68 +1356,6 @@ public final class RowAuditor {
                 case Parser.MORE: return a > b ? 1 : 0;
                 default: return a == b ? 1 : 0;
             }
-        }
-
-        /** A letter by its place among the parser's LETTERS. */
-        private int letter(int which) {
-            switch (which) {
-                case 0: return books.cell(faced, KIND);
-                case 1: return view.sumOf(faced);
-                case 2: return books.cell(faced, DAY);
-                case 3: return books.cell(faced, HOUR);
-                case 4: return books.cell(faced, HAND);
-                case 5: return believedLeave();
-                case 6: return books.cell(faced, HOUSE);
-                case 7: return books.houseInto(faced);
-                case 8: return books.payeeOf(faced);
-                case 9: return books.cell(faced, PAPER);
-                case 10: return books.cell(faced, TOLD) - books.cell(faced, DAY);
-                case 11: return crowd();
-                default: return turnover();
-            }
-        }
-
-        private int believedLeave() {
-            int leave = books.cell(faced, LEAVE);
-            return leave == unbelieved ? NONE : leave;
-        }
-
-        private int crowd() {
-            if (crowd == NONE) {
-                crowd = 0;
-                for (int place = firstOfDay(); place < view.size && isOfDay(place); place++) {
-                    int i = view.rowAt(place);
-                    crowd += books.cell(i, HAND) == books.cell(faced, HAND) ? 1 : 0;
-                }
-            }
-            return crowd;
-        }
-
-        private int turnover() {
-            if (turnover == NONE) {
-                turnover = 0;
-                int payee = books.payeeOf(faced);
-                int end = payee == NONE ? 0 : view.size;
-                for (int place = firstOfDay(); place < end && isOfDay(place); place++) {
-                    int i = view.rowAt(place);
-                    boolean alike = books.payeeOf(i) == payee && books.cell(i, KIND) == books.cell(faced, KIND);
-                    turnover += alike ? view.sumOf(i) : 0;
-                }
-            }
-            return turnover;
-        }
-
-        private int firstOfDay() {
-            int place = view.placeOf(faced);
-            while (place > 0 && isOfDay(place - 1)) {
-                place--;
-            }
-            return place;
-        }
-
-        private boolean isOfDay(int place) {
-            return within(place, 0, view.size - 1)
-                && books.cell(view.rowAt(place), DAY) == books.cell(faced, DAY);
         }
     }
 
@@ -1865,14 +1873,12 @@ public final class RowAuditor {
         }
 
         private int mostFrom(int step, int place) {
-            int index = step * PLACES + place;
-            return within(place, 0, ROWS) && within(index, 0, most.length - 1) ? most[index] : NONE;
+            return step >= 0 && step <= STEPS && place >= 0 && place < PLACES ? most[step * PLACES + place] : NONE;
         }
 
         private void setMost(int step, int place, int sum) {
-            int index = step * PLACES + place;
-            if (within(index, 0, most.length - 1)) {
-                most[index] = sum;
+            if (step >= 0 && step <= STEPS && place >= 0 && place < PLACES) {
+                most[step * PLACES + place] = sum;
             }
         }
     }
