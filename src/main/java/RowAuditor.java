@@ -326,23 +326,26 @@ public final class RowAuditor {
     }
 
     public int fits(int c, int days, int sum) {
-        return prepareFitter(c, days, sum) ? fitter.countFitting(sum) : NONE;
+        Fitter ready = fitterFor(c, days, sum);
+        return ready == null ? NONE : ready.countFitting(sum);
     }
 
     public int fitted(int c, int days, int sum, int i) {
-        return prepareFitter(c, days, sum) ? fitter.firstFitting(sum, i) : NONE;
+        Fitter ready = fitterFor(c, days, sum);
+        return ready == null ? NONE : ready.firstFitting(sum, i);
     }
 
-    private boolean prepareFitter(int c, int days, int sum) {
+    /** The fitter, ready for a CHAIN and so many DAYS; null where a number is none. */
+    private Fitter fitterFor(int c, int days, int sum) {
         if (!within(c, 0, chains.size() - 1) || !isDay(days) || !within(sum, 0, STEPS * MOST_SUM)) {
-            return false;
+            return null;
         }
         if (fitter == null) {
             fitter = new Fitter(books, view, facts);
         }
         view.asOf(books.today);
         fitter.prepare(chains.get(c), days);
-        return true;
+        return fitter;
     }
 
     public long ways(int hand, int kind, int r, int what) {
@@ -1380,13 +1383,15 @@ public final class RowAuditor {
             facts.face(i);
             int day = books.cell(i, DAY);
             for (int r = Math.min(rules.size(), RULES) - 1; r >= 0; r--) {
-                if (rules.get(r).isInForce(day)) {
-                    strikeBy(r, day);
+                Text rule = rules.get(r);
+                if (rule.isInForce(day)) {
+                    int out = struck[r];
+                    strikeBelow(rule, r, out, day);
                     // An l lets what its own RULE and all lower ones break: nothing is left to ask.
-                    if (someHolds(r, Clause.LETS)) {
+                    if (someHolds(rule, Clause.LETS, out)) {
                         return UNBROKEN;
                     }
-                    if (someHolds(r, Clause.BREAKS)) {
+                    if (someHolds(rule, Clause.BREAKS, out)) {
                         return r;
                     }
                 }
@@ -1394,24 +1399,23 @@ public final class RowAuditor {
             return UNBROKEN;
         }
 
-        private void strikeBy(int r, int day) {
-            ArrayList<Clause> clauses = rules.get(r).clauses;
-            for (int j = 0; j < clauses.size(); j++) {
-                Clause clause = clauses.get(j);
-                if (clause.kind == Clause.STRIKES && !isIn(j, struck[r])) {
-                    int target = clause.target;
-                    if (within(target, 0, r - 1) && rules.get(target).isInForce(day)) {
-                        struck[target] |= 1 << clause.targetClause;
-                    }
+        /** An x strikes in lower RULES alone, so what is STRUCK of its own RULE is settled before. */
+        private void strikeBelow(Text rule, int r, int out, int day) {
+            int end = Math.min(r, rules.size());
+            for (int j = 0; j < rule.clauses.size(); j++) {
+                Clause clause = rule.clauses.get(j);
+                boolean counts = clause.kind == Clause.STRIKES && !isIn(j, out);
+                int target = clause.target;
+                if (counts && target >= 0 && target < end && rules.get(target).isInForce(day)) {
+                    struck[target] |= 1 << clause.targetClause;
                 }
             }
         }
 
-        private boolean someHolds(int r, int kind) {
-            ArrayList<Clause> clauses = rules.get(r).clauses;
-            for (int j = 0; j < clauses.size(); j++) {
-                Clause clause = clauses.get(j);
-                if (clause.kind == kind && !isIn(j, struck[r]) && facts.meets(clause.code)) {
+        private boolean someHolds(Text rule, int kind, int out) {
+            for (int j = 0; j < rule.clauses.size(); j++) {
+                Clause clause = rule.clauses.get(j);
+                if (clause.kind == kind && !isIn(j, out) && facts.meets(clause.code)) {
                     return true;
                 }
             }
@@ -1539,18 +1543,18 @@ public final class RowAuditor {
 
         /** An edge and its way back stand side by side, so that e ^ 1 is the other of the two. */
         private void link(int from, int to, int most) {
-            addEdge(from, to, most);
-            addEdge(to, from, 0);
+            if (edges + 2 <= EDGES && within(from, 0, nodes - 1) && within(to, 0, nodes - 1)) {
+                addEdge(from, to, most);
+                addEdge(to, from, 0);
+            }
         }
 
         private void addEdge(int from, int to, int most) {
-            if (edges < EDGES && within(from, 0, NODES - 1)) {
-                target[edges] = to;
-                room[edges] = most;
-                nextEdge[edges] = firstEdge[from];
-                firstEdge[from] = edges;
-                edges++;
-            }
+            target[edges] = to;
+            room[edges] = most;
+            nextEdge[edges] = firstEdge[from];
+            firstEdge[from] = edges;
+            edges++;
         }
 
         private int greatestFlow() {
@@ -1733,7 +1737,8 @@ public final class RowAuditor {
         private final int[] fitting = new int[ROWS];
         // By STEP and place: the most that it and the STEPS behind it bring from there on, or NONE.
         private final int[] most = new int[(STEPS + 1) * PLACES];
-        private Text chain;
+        // By STEP, its letters as bits.
+        private final int[] letters = new int[STEPS];
         private int steps;
         private int days;
         private int end;
@@ -1744,19 +1749,19 @@ public final class RowAuditor {
             this.facts = facts;
         }
 
-        void prepare(Text told, int mostDays) {
-            chain = told;
-            steps = Math.min(told.clauses.size(), STEPS);
+        void prepare(Text chain, int mostDays) {
+            steps = Math.min(chain.clauses.size(), STEPS);
             days = mostDays;
-            for (int place = 0; place < view.size && place < ROWS; place++) {
-                facts.face(view.rowAt(place));
-                int bits = 0;
-                for (int step = 0; step < steps; step++) {
-                    if (facts.meets(told.clauses.get(step).code)) {
-                        bits |= 1 << step;
+            Arrays.fill(holding, 0);
+            for (int step = 0; step < steps; step++) {
+                Clause clause = chain.clauses.get(step);
+                letters[step] = clause.target;
+                for (int place = 0; place < view.size && place < ROWS; place++) {
+                    facts.face(view.rowAt(place));
+                    if (facts.meets(clause.code)) {
+                        holding[place] |= 1 << step;
                     }
                 }
-                holding[place] = bits;
             }
         }
 
@@ -1842,8 +1847,8 @@ public final class RowAuditor {
             alike |= books.cell(i, HAND) == books.cell(first, HAND) ? STEP_HAND : 0;
             alike |= books.cell(i, HOUSE) == books.cell(first, HOUSE) ? STEP_HOUSE : 0;
             int bits = 0;
-            for (int step = 1; step < steps; step++) {
-                if ((chain.clauses.get(step).target & ~alike) == 0) {
+            for (int step = 1; step < steps && step < STEPS; step++) {
+                if ((letters[step] & ~alike) == 0) {
                     bits |= 1 << step;
                 }
             }

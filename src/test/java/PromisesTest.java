@@ -257,6 +257,9 @@ public final class PromisesTest {
     longest.append("=0)");
     Due.is(9, "160 bytes", longest.length(), 160);
     Due.is(9, "160 bytes", Due.rule(x, longest.toString()), 2);
+    Due.is(9, "161 bytes", Due.rule(x, longest.insert(2, '1').toString()), NONE);
+    Due.is(9, "the tape stays", x.count(8), 180);
+    x.rule(0, 0, 1);
     for (int k = 3; k < 20; k++) {
       Due.is(9, "rule " + k, Due.rule(x, "r(k=1)"), k);
     }
@@ -653,6 +656,9 @@ public final class PromisesTest {
     longest.append("2=0)");
     Due.is(17, "100 bytes", longest.length(), 100);
     chainFault(longest.toString(), 0);
+    RowAuditor y = new RowAuditor();
+    Due.is(17, "101 bytes", Due.chain(y, longest.insert(1, '1').toString()), NONE);
+    Due.is(17, "the tape stays", y.count(8), 120);
   }
 
   private static void fits() {
