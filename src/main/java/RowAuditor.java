@@ -35,6 +35,7 @@ public final class RowAuditor {
     private static final int READINGS = 9;
     private static final int DRAWS = 50;
     private static final int TAPE = 200;
+    private static final int FED_BYTES = 20;
     private static final int RULE_BYTES = 160;
     private static final int CHAIN_BYTES = 100;
     private static final int PARTED_ROWS = 12;
@@ -87,10 +88,11 @@ public final class RowAuditor {
     private final int[] drawn = new int[DRAWS];
     private final int[] dealt = new int[4];
 
-    // These three are dear, so they are made when they are first wanted, and then kept.
-    private Flow flow;
-    private Rounder rounder;
-    private Fitter fitter;
+    // Made once, here, for what a call makes is counted times all calls.
+    private final Parser parser = new Parser(tape);
+    private final Flow flow = new Flow(books, view);
+    private final Rounder rounder = new Rounder(books, view);
+    private final Fitter fitter = new Fitter(books, view, facts);
 
     public RowAuditor() {
     }
@@ -171,17 +173,22 @@ public final class RowAuditor {
     }
 
     public int feed(int a, int b, int c, int d, int e) {
-        int[] words = {a, b, c, d, e};
-        if (taped + 4 * words.length > TAPE) {
+        if (taped + FED_BYTES > TAPE) {
             return NONE;
         }
-        for (int word : words) {
-            for (int shift = 24; shift >= 0 && taped < TAPE; shift -= 8) {
-                tape[taped] = (word >>> shift) & 255;
-                taped++;
-            }
-        }
+        append(a);
+        append(b);
+        append(c);
+        append(d);
+        append(e);
         return taped;
+    }
+
+    private void append(int word) {
+        for (int shift = 24; shift >= 0 && taped < TAPE; shift -= 8) {
+            tape[taped] = (word >>> shift) & 255;
+            taped++;
+        }
     }
 
     /** Whether the tape has as many bytes as a call asks for, and the call may ask for so many. */
@@ -194,8 +201,7 @@ public final class RowAuditor {
             return NONE;
         }
         taped = 0;
-        Parser parser = new Parser(tape, n);
-        Text text = parser.ruleText(from, to);
+        Text text = parser.ruleText(n, from, to);
         return parser.isFaulty() ? parser.faultAnswer() : keep(text, laws.rules);
     }
 
@@ -297,9 +303,6 @@ public final class RowAuditor {
         if (!books.isHouse(a) || !books.isHouse(b)) {
             return NONE;
         }
-        if (flow == null) {
-            flow = new Flow(books, view);
-        }
         view.asOf(books.today);
         return flow.coinsOf(a, b, most);
     }
@@ -307,9 +310,6 @@ public final class RowAuditor {
     public int rounds(int days, int hundredths) {
         if (!isDay(days) || !within(hundredths, 0, 100)) {
             return NONE;
-        }
-        if (rounder == null) {
-            rounder = new Rounder(books, view);
         }
         view.asOf(books.today);
         return rounder.countRounds(days, hundredths);
@@ -320,8 +320,7 @@ public final class RowAuditor {
             return NONE;
         }
         taped = 0;
-        Parser parser = new Parser(tape, n);
-        Text text = parser.chainText();
+        Text text = parser.chainText(n);
         return parser.isFaulty() ? parser.faultAnswer() : keep(text, chains);
     }
 
@@ -339,9 +338,6 @@ public final class RowAuditor {
     private Fitter fitterFor(int c, int days, int sum) {
         if (!within(c, 0, chains.size() - 1) || !isDay(days) || !within(sum, 0, STEPS * MOST_SUM)) {
             return null;
-        }
-        if (fitter == null) {
-            fitter = new Fitter(books, view, facts);
         }
         view.asOf(books.today);
         fitter.prepare(chains.get(c), days);
@@ -992,16 +988,22 @@ public final class RowAuditor {
         private static final int DEPTH = 6;
 
         private final int[] text;
-        private final int length;
         private final int[] code = new int[RULE_BYTES];
+        private int length;
         private int used;
         private int at;
         private int fault;
         private int faultPlace;
 
-        Parser(int[] text, int length) {
+        Parser(int[] text) {
             this.text = text;
-            this.length = Math.min(length, text.length);
+        }
+
+        private void begin(int bytes) {
+            length = Math.min(bytes, text.length);
+            at = 0;
+            fault = 0;
+            faultPlace = 0;
         }
 
         boolean isFaulty() {
@@ -1012,7 +1014,8 @@ public final class RowAuditor {
             return -1000 * fault - faultPlace;
         }
 
-        Text ruleText(int from, int to) {
+        Text ruleText(int bytes, int from, int to) {
+            begin(bytes);
             Text rule = new Text(from, to);
             for (int k = 0; k <= CLAUSES; k++) {
                 int letter = peek();
@@ -1033,7 +1036,8 @@ public final class RowAuditor {
             return rule;
         }
 
-        Text chainText() {
+        Text chainText(int bytes) {
+            begin(bytes);
             Text chain = new Text(0, LAST_DAY);
             for (int k = 0; k <= STEPS; k++) {
                 if (k == STEPS && peek() == '(') {
@@ -1611,20 +1615,24 @@ public final class RowAuditor {
     }
 
     /**
-     * Counts ROUNDS. Of the ways that a first MOVE opens only how many there are is kept, for each set of
-     * HOUSES gone into and each HOUSE reached: so many ways need no more time than few.
+     * Counts ROUNDS. Of the ways that a first MOVE opens only how many there are is kept, for each HOUSE
+     * reached and each set of HOUSES gone into: so many ways need no more time than few.
      */
     private static final class Rounder {
-        private static final int SETS = 1 << HOUSES;
         private static final int LONGEST = 6;
+        // A way that is not home yet has reached one of the other HOUSES; these are numbered without home.
+        private static final int STAYS = HOUSES - 1;
+        // What else such a way went into: any set of the rest, but four of these eight at most.
+        private static final int SETS = 1 << STAYS - 1;
+        private static final int MOST_SETS = 1 + 8 + 28 + 56 + 70;
 
         private final Books books;
         private final View view;
-        // By set and HOUSE reached: how many ways.
-        private final int[] waysTo = new int[SETS * HOUSES];
-        // By HOUSE reached: the sets that have ways, and how many sets those are.
-        private final int[] sets = new int[HOUSES * SETS / 2];
-        private final int[] sizes = new int[HOUSES];
+        // By stay reached and the set of the rest: how many ways.
+        private final int[] waysTo = new int[STAYS * SETS];
+        // By stay reached: the sets (with itself) that have ways, and how many sets those are.
+        private final int[] sets = new int[STAYS * MOST_SETS];
+        private final int[] sizes = new int[STAYS];
 
         Rounder(Books books, View view) {
             this.books = books;
@@ -1651,8 +1659,9 @@ public final class RowAuditor {
             int sum = view.sumOf(first);
             int farthest = sum * hundredths / 100;
             int lastDay = books.cell(first, DAY) + days;
+            int stay = stayOf(books.houseInto(first), home);
             forget();
-            addWays(1 << books.houseInto(first), books.houseInto(first), 1);
+            addWays(stay, 1 << stay, 1);
             int rounds = 0;
             for (int later = place + 1; later < view.size && rounds < MOST_COUNTED; later++) {
                 int i = view.rowAt(later);
@@ -1660,63 +1669,71 @@ public final class RowAuditor {
                     break;
                 }
                 if (isMove(i) && Math.abs(view.sumOf(i) - sum) <= farthest) {
-                    rounds = Math.min(MOST_COUNTED, rounds + goOn(books.cell(i, HOUSE), books.houseInto(i), home));
+                    int from = stayOf(books.cell(i, HOUSE), home);
+                    rounds = Math.min(MOST_COUNTED, rounds + goOn(from, stayOf(books.houseInto(i), home)));
                 }
             }
             return rounds;
         }
 
+        /** A HOUSE's number among all but home, or NONE: home itself. */
+        private static int stayOf(int house, int home) {
+            return house == home ? NONE : house < home ? house : house - 1;
+        }
+
         /** Lengthens all ways that a MOVE can lengthen; answers how many come home by it. */
-        private int goOn(int from, int into, int home) {
+        private int goOn(int from, int into) {
             int arrived = 0;
-            int size = setsOf(from);
+            int size = within(from, 0, STAYS - 1) ? sizes[from] : 0;
             for (int k = 0; k < size; k++) {
                 int set = setAt(from, k);
-                if (into == home) {
-                    arrived = Math.min(MOST_COUNTED, arrived + waysBy(set, from));
+                if (into == NONE) {
+                    arrived = Math.min(MOST_COUNTED, arrived + waysBy(from, set));
                 } else if (!isIn(into, set) && Integer.bitCount(set) < LONGEST - 1) {
-                    addWays(set | 1 << into, into, waysBy(set, from));
+                    addWays(into, set | 1 << into, waysBy(from, set));
                 }
             }
             return arrived;
         }
 
-        private int setsOf(int house) {
-            return within(house, 0, HOUSES - 1) ? sizes[house] : 0;
-        }
-
-        private int setAt(int house, int k) {
-            int index = house * SETS / 2 + k;
+        private int setAt(int stay, int k) {
+            int index = stay * MOST_SETS + k;
             return within(index, 0, sets.length - 1) ? sets[index] : 0;
         }
 
-        private int waysBy(int set, int house) {
-            int index = set * HOUSES + house;
+        private int waysBy(int stay, int set) {
+            int index = indexOf(stay, set);
             return within(index, 0, waysTo.length - 1) ? waysTo[index] : 0;
         }
 
-        private void addWays(int set, int house, int more) {
-            int index = set * HOUSES + house;
-            if (!within(house, 0, HOUSES - 1) || !within(index, 0, waysTo.length - 1)) {
+        /** A set holds the stay reached itself: that bit says nothing, and is left out. */
+        private static int indexOf(int stay, int set) {
+            int below = set & (1 << stay) - 1;
+            int above = set >> stay + 1 << stay;
+            return stay * SETS + (above | below);
+        }
+
+        private void addWays(int stay, int set, int more) {
+            int index = indexOf(stay, set);
+            if (!within(stay, 0, STAYS - 1) || !within(index, 0, waysTo.length - 1)) {
                 return;
             }
-            // A set holds the HOUSE reached, so half of all sets are enough for each HOUSE.
-            if (waysTo[index] == 0 && sizes[house] < SETS / 2) {
-                sets[house * SETS / 2 + sizes[house]] = set;
-                sizes[house]++;
+            if (waysTo[index] == 0 && sizes[stay] < MOST_SETS) {
+                sets[stay * MOST_SETS + sizes[stay]] = set;
+                sizes[stay]++;
             }
             waysTo[index] = Math.min(MOST_COUNTED, waysTo[index] + more);
         }
 
         private void forget() {
-            for (int house = 0; house < HOUSES; house++) {
-                for (int k = 0; k < sizes[house]; k++) {
-                    int index = setAt(house, k) * HOUSES + house;
+            for (int stay = 0; stay < STAYS; stay++) {
+                for (int k = 0; k < sizes[stay]; k++) {
+                    int index = indexOf(stay, setAt(stay, k));
                     if (within(index, 0, waysTo.length - 1)) {
                         waysTo[index] = 0;
                     }
                 }
-                sizes[house] = 0;
+                sizes[stay] = 0;
             }
         }
     }

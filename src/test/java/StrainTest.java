@@ -6,6 +6,8 @@ public final class StrainTest {
   private static final int CALLS = 512;
   /** A run has room for 7.3 million fields and elements; with eight bytes each this stays far below. */
   private static final long MOST_BYTES = 8_000_000;
+  private static final long MOST_ELEMENTS = 7_300_000;
+  private static final long MOST_CALL_BYTES = 4000;
   private static final long MOST_MILLIS = 2000;
   private static final int KINDS_OF_CALLS = 36;
   private static int wrong = 0;
@@ -25,7 +27,7 @@ public final class StrainTest {
     slowRounds();
     slowFits();
     slowFlow();
-    manyObjects();
+    dearestCalls();
     System.out.println(wrong + " strains not stood");
     if (wrong != 0) {
       System.exit(1);
@@ -210,16 +212,72 @@ public final class StrainTest {
     timed("followed", start);
   }
 
-  /** New objects count as well: a run of nothing else must have room. */
-  private static void manyObjects() {
-    long bytes = allocated();
-    int sum = 0;
-    for (int k = 0; k < CALLS; k++) {
-      sum += new RowAuditor().count(0);
+  /**
+   * What the dearest call makes, times all calls, must have room; and a new object counts as a call. An element or
+   * field of the class has four bytes or more, but for 150 booleans.
+   */
+  private static void dearestCalls() {
+    long most = 0;
+    for (int turn = 0; turn < 2; turn++) {
+      // The first turn only warms up: loading classes makes objects, too.
+      most = 0;
+      for (int promise = 2; promise <= KINDS_OF_CALLS; promise++) {
+        most = Math.max(most, dearestCall(promise));
+      }
+      most = Math.max(most, dearestText());
     }
-    long used = allocated() - bytes;
-    if (used > 3 * MOST_BYTES || sum != 0) {
-      fail(CALLS + " new objects used " + used + " bytes");
+    long before = allocated();
+    RowAuditor x = new RowAuditor();
+    long made = allocated() - before;
+    if (x.count(0) != 0 || made / 4 + 150 > MOST_ELEMENTS / CALLS) {
+      fail("a new object has " + made + " bytes");
     }
+    if (most > MOST_CALL_BYTES) {
+      fail("a call made " + most + " bytes");
+    }
+  }
+
+  /** Each call is the first of its kind on its object, for that is when something could be made late. */
+  private static long dearestCall(int promise) {
+    long most = 0;
+    for (int seed = 0; seed < 20; seed++) {
+      Random dice = new Random(seed);
+      RowAuditor x = filled(dice, 20);
+      Due.chain(x, "(s>0);(s>1)");
+      long before = allocated();
+      long answer = plainCall(x, promise, seed);
+      long made = allocated() - before;
+      most = Math.max(most, answer == Long.MIN_VALUE ? 0 : made);
+    }
+    return most;
+  }
+
+  /** Calls whose arguments stand, so that they go all the way. */
+  private static long plainCall(RowAuditor x, int promise, int k) {
+    switch (promise) {
+      case 4: return x.row(1, 0, 0, 0, k, 7, 1, -1, -1);
+      case 7: return x.holds(0, 0, 0);
+      case 8: return x.feed(k, k, k, k, k);
+      case 15: return x.followed(0, 1, k % 2 == 0);
+      case 16: return x.rounds(3999, 100);
+      case 18: return x.fits(0, 3999, 0);
+      case 19: return x.fitted(0, 3999, 0, k % 2);
+      case 25: return x.sample(50, k, 1);
+      default: return call(x, promise, new Random(k));
+    }
+  }
+
+  /** A whole tape of CLAUSES, good ones and one too many. */
+  private static long dearestText() {
+    long most = 0;
+    String clause = "l(s+s+s>s+1);";
+    for (String text : new String[] {clause.repeat(9) + "r(" + "s*".repeat(19) + "s=0)", clause.repeat(11)}) {
+      RowAuditor x = new RowAuditor();
+      Due.feed(x, text);
+      long before = allocated();
+      x.rule(0, 3999, Math.min(160, text.length()));
+      most = Math.max(most, allocated() - before);
+    }
+    return most;
   }
 }
