@@ -1622,9 +1622,10 @@ public final class RowAuditor {
         private static final int LONGEST = 6;
         // A way that is not home yet has reached one of the other HOUSES; these are numbered without home.
         private static final int STAYS = HOUSES - 1;
-        // What else such a way went into: any set of the rest, but four of these eight at most.
+        // What else such a way went into: a set of the rest, with that into which the first MOVE went and up to
+        // three of the seven others; or nothing, where it has reached just that.
         private static final int SETS = 1 << STAYS - 1;
-        private static final int MOST_SETS = 1 + 8 + 28 + 56 + 70;
+        private static final int MOST_SETS = 1 + 7 + 21 + 35;
 
         private final Books books;
         private final View view;

@@ -28,14 +28,20 @@ final class Due {
   static int feed(RowAuditor x, String text) {
     int size = x.count(8);
     for (int p = 0; p < text.length(); p += 20) {
-      int[] w = new int[5];
-      for (int k = 0; k < 20; k++) {
-        int c = p + k < text.length() ? text.charAt(p + k) : 0;
-        w[k / 4] = w[k / 4] << 8 | c;
-      }
+      int[] w = words(text, p);
       size = x.feed(w[0], w[1], w[2], w[3], w[4]);
     }
     return size;
+  }
+
+  /** Twenty bytes of a text from a place on as five ints, with zero bytes behind its end. */
+  static int[] words(String text, int place) {
+    int[] words = new int[5];
+    for (int k = 0; k < 20; k++) {
+      int sign = place + k < text.length() ? text.charAt(place + k) : 0;
+      words[k / 4] = words[k / 4] << 8 | sign;
+    }
+    return words;
   }
 
   static int rule(RowAuditor x, int from, int to, String text) {

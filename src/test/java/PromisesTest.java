@@ -39,26 +39,6 @@ public final class PromisesTest {
     Due.end();
   }
 
-  private static RowAuditor withHouses(int... sums) {
-    RowAuditor x = new RowAuditor();
-    for (int sum : sums) {
-      x.house(sum);
-    }
-    return x;
-  }
-
-  private static int pay(RowAuditor x, int house, int payee, int day, int sum, int hand) {
-    return x.row(1, house, payee, day, 12, sum, hand, NONE, NONE);
-  }
-
-  private static int sale(RowAuditor x, int house, int payee, int day, int sum, int hand) {
-    return x.row(0, house, payee, day, 12, sum, hand, NONE, NONE);
-  }
-
-  private static int move(RowAuditor x, int from, int to, int day, int sum) {
-    return x.row(2, from, to, day, 12, sum, 0, NONE, NONE);
-  }
-
   private static void newObject() {
     RowAuditor x = new RowAuditor();
     for (int what = 0; what <= 8; what++) {
@@ -106,7 +86,7 @@ public final class PromisesTest {
   }
 
   private static void row() {
-    RowAuditor x = withHouses(5, 6);
+    RowAuditor x = Tell.withHouses(5, 6);
     x.now(10);
     Due.is(4, "least of all", x.row(0, 0, 0, 0, 0, 1, 0, NONE, NONE), 0);
     Due.is(4, "most of all", x.row(1, 1, 19, 10, 23, 1000000, 15, 14, 99), 1);
@@ -130,16 +110,16 @@ public final class PromisesTest {
     }
     Due.is(4, "count", x.count(2), 4);
     for (int i = 4; i < 150; i++) {
-      Due.is(4, "row " + i, pay(x, 0, 0, 0, 1, 0), i);
+      Due.is(4, "row " + i, Tell.pay(x, 0, 0, 0, 1, 0), i);
     }
-    Due.is(4, "a 151st", pay(x, 0, 0, 0, 1, 0), NONE);
+    Due.is(4, "a 151st", Tell.pay(x, 0, 0, 0, 1, 0), NONE);
     Due.is(4, "count", x.count(2), 150);
   }
 
   private static void mend() {
-    RowAuditor x = withHouses(0);
-    pay(x, 0, 0, 0, 10, 0);
-    pay(x, 0, 0, 0, 20, 0);
+    RowAuditor x = Tell.withHouses(0);
+    Tell.pay(x, 0, 0, 0, 10, 0);
+    Tell.pay(x, 0, 0, 0, 20, 0);
     Due.is(5, "no such row", x.mend(2, 1), false);
     Due.is(5, "no such row", x.mend(-1, 1), false);
     Due.is(5, "no such sum", x.mend(0, -1), false);
@@ -160,7 +140,7 @@ public final class PromisesTest {
   }
 
   private static void known() {
-    RowAuditor x = withHouses(0);
+    RowAuditor x = Tell.withHouses(0);
     x.now(5);
     x.row(1, 0, 0, 5, 7, 10, 0, NONE, NONE);
     x.row(1, 0, 0, 3, 9, 20, 0, NONE, NONE);
@@ -195,11 +175,11 @@ public final class PromisesTest {
   }
 
   private static void holds() {
-    RowAuditor x = withHouses(100, 10);
+    RowAuditor x = Tell.withHouses(100, 10);
     x.now(4);
-    sale(x, 0, 1, 1, 5, 0);
-    pay(x, 0, 1, 2, 200, 0);
-    move(x, 0, 1, 3, 30);
+    Tell.sale(x, 0, 1, 1, 5, 0);
+    Tell.pay(x, 0, 1, 2, 200, 0);
+    Tell.move(x, 0, 1, 3, 30);
     x.row(3, 0, NONE, 0, 0, 999, 0, NONE, NONE);
     int[] zero = {100, 105, -95, -125, -125};
     int[] one = {10, 10, 10, 40, 40};
@@ -363,10 +343,10 @@ public final class PromisesTest {
   }
 
   private static void broken() {
-    RowAuditor x = withHouses(0);
+    RowAuditor x = Tell.withHouses(0);
     x.now(5);
-    pay(x, 0, 0, 3, 10, 0);
-    pay(x, 0, 0, 4, 20, 1);
+    Tell.pay(x, 0, 0, 3, 10, 0);
+    Tell.pay(x, 0, 0, 4, 20, 1);
     Due.is(10, "no rules", x.broken(0, 5), -2);
     Due.is(10, "not known then", x.broken(0, 4), NONE);
     Due.is(10, "no such row", x.broken(2, 5), NONE);
@@ -399,7 +379,7 @@ public final class PromisesTest {
   }
 
   private static void condition(String c, boolean due) {
-    RowAuditor x = withHouses(0, 0, 0);
+    RowAuditor x = Tell.withHouses(0, 0, 0);
     x.now(7);
     x.row(1, 2, 4, 5, 13, 60, 3, 9, 77);
     x.row(1, 1, 4, 5, 2, 40, 3, NONE, NONE);
@@ -447,7 +427,7 @@ public final class PromisesTest {
     condition("2097152*2097152*2097152/[0-1]<0", true);
     condition("2097152*2097152*2097152%[0-1]=0", true);
     condition("2097152*2097152*2097152*2=0", true);
-    RowAuditor x = withHouses(0, 0);
+    RowAuditor x = Tell.withHouses(0, 0);
     x.row(2, 1, 0, 0, 0, 7, 3, NONE, NONE);
     x.row(3, 1, NONE, 0, 0, 7, 3, NONE, NONE);
     Due.is(10, "a move", Due.meets(x, "k=2&o=1&e=0&p=0-1&v=0-1&q=0-1&t=0&n=2&a=0", 0, 0), true);
@@ -455,9 +435,9 @@ public final class PromisesTest {
   }
 
   private static void clear() {
-    RowAuditor x = withHouses(0);
-    pay(x, 0, 0, 0, 1, 0);
-    pay(x, 0, 0, 0, 1, 0);
+    RowAuditor x = Tell.withHouses(0);
+    Tell.pay(x, 0, 0, 0, 1, 0);
+    Tell.pay(x, 0, 0, 0, 1, 0);
     Due.rule(x, "r(k=1)");
     x.now(3);
     Due.is(11, "no such row", x.clear(2, 0), false);
@@ -474,7 +454,7 @@ public final class PromisesTest {
   }
 
   private static void findings() {
-    RowAuditor x = withHouses(0);
+    RowAuditor x = Tell.withHouses(0);
     x.now(1);
     x.row(1, 0, 0, 1, 5, 10, 0, NONE, NONE);
     x.row(1, 0, 0, 1, 4, 10, 1, NONE, NONE);
@@ -500,10 +480,10 @@ public final class PromisesTest {
   }
 
   private static void parted() {
-    RowAuditor x = withHouses(0);
+    RowAuditor x = Tell.withHouses(0);
     int[] sums = {10, 20, 30, 30, 40, 5};
     for (int sum : sums) {
-      pay(x, 0, 0, 0, sum, 0);
+      Tell.pay(x, 0, 0, 0, sum, 0);
     }
     Due.is(14, "just it", Due.parted(x, 135, 0, 1, 2, 3, 4, 5), 0);
     Due.is(14, "one", Due.parted(x, 125, 0, 1, 2, 3, 4, 5), 1);
@@ -534,24 +514,24 @@ public final class PromisesTest {
   }
 
   private static void followed() {
-    RowAuditor x = withHouses(10, 4, 0);
+    RowAuditor x = Tell.withHouses(10, 4, 0);
     Due.is(15, "all at home", x.followed(0, 0, false), 10);
     Due.is(15, "none elsewhere", x.followed(0, 1, true), 0);
-    move(x, 0, 1, 0, 6);
+    Tell.move(x, 0, 1, 0, 6);
     Due.is(15, "those that went", x.followed(0, 1, true), 6);
     Due.is(15, "surely", x.followed(0, 1, false), 6);
-    pay(x, 1, 0, 0, 5, 0);
+    Tell.pay(x, 1, 0, 0, 5, 0);
     Due.is(15, "its own may have gone out", x.followed(0, 1, true), 5);
     Due.is(15, "or the others", x.followed(0, 1, false), 1);
     Due.is(15, "of its own", x.followed(1, 1, true), 4);
     Due.is(15, "of its own", x.followed(1, 1, false), 0);
-    move(x, 1, 2, 0, 9);
+    Tell.move(x, 1, 2, 0, 9);
     Due.is(15, "what is lacking comes from outside", x.followed(0, 2, true), 5);
     Due.is(15, "what is lacking comes from outside", x.followed(0, 2, false), 1);
     Due.is(15, "it has none then", x.followed(0, 1, true), 0);
-    sale(x, 1, 0, 0, 3, 0);
+    Tell.sale(x, 1, 0, 0, 3, 0);
     Due.is(15, "nobody gives that back", x.followed(0, 1, true), 0);
-    move(x, 2, 0, 0, 8);
+    Tell.move(x, 2, 0, 0, 8);
     Due.is(15, "round and back", x.followed(0, 0, true), 9);
     Due.is(15, "at least", x.followed(0, 0, false), 4);
     Due.is(15, "left", x.followed(0, 2, true), 1);
@@ -565,7 +545,7 @@ public final class PromisesTest {
   }
 
   private static void rounds() {
-    RowAuditor x = withHouses(0, 0, 0);
+    RowAuditor x = Tell.withHouses(0, 0, 0);
     x.now(9);
     x.row(2, 0, 1, 1, 0, 100, 0, NONE, NONE);
     x.row(2, 1, 0, 4, 0, 90, 0, NONE, NONE);
@@ -586,25 +566,25 @@ public final class PromisesTest {
     Due.is(16, "no such days", x.rounds(4000, 0), NONE);
     Due.is(16, "no such hundredths", x.rounds(0, -1), NONE);
     Due.is(16, "no such hundredths", x.rounds(0, 101), NONE);
-    RowAuditor y = withHouses(0, 0, 0, 0, 0, 0, 0);
+    RowAuditor y = Tell.withHouses(0, 0, 0, 0, 0, 0, 0);
     for (int h = 0; h < 6; h++) {
-      move(y, h, (h + 1) % 6, 0, 10);
+      Tell.move(y, h, (h + 1) % 6, 0, 10);
     }
     Due.is(16, "six moves", y.rounds(0, 0), 1);
-    RowAuditor z = withHouses(0, 0, 0, 0, 0, 0, 0);
+    RowAuditor z = Tell.withHouses(0, 0, 0, 0, 0, 0, 0);
     for (int h = 0; h < 7; h++) {
-      move(z, h, (h + 1) % 7, 0, 10);
+      Tell.move(z, h, (h + 1) % 7, 0, 10);
     }
     Due.is(16, "not seven", z.rounds(0, 0), 0);
-    RowAuditor eight = withHouses(0, 0, 0);
-    move(eight, 0, 1, 0, 10);
-    move(eight, 1, 2, 0, 10);
-    move(eight, 2, 1, 0, 10);
-    move(eight, 1, 0, 0, 10);
+    RowAuditor eight = Tell.withHouses(0, 0, 0);
+    Tell.move(eight, 0, 1, 0, 10);
+    Tell.move(eight, 1, 2, 0, 10);
+    Tell.move(eight, 2, 1, 0, 10);
+    Tell.move(eight, 1, 0, 0, 10);
     Due.is(16, "none into a house twice", eight.rounds(0, 0), 2);
-    RowAuditor many = withHouses(0, 0, 0);
+    RowAuditor many = Tell.withHouses(0, 0, 0);
     for (int k = 0; k < 150; k++) {
-      move(many, k / 50, (k / 50 + 1) % 3, 0, 10);
+      Tell.move(many, k / 50, (k / 50 + 1) % 3, 0, 10);
     }
     Due.is(16, "100000 at most", many.rounds(0, 0), 100000);
   }
@@ -662,7 +642,7 @@ public final class PromisesTest {
   }
 
   private static void fits() {
-    RowAuditor x = withHouses(0, 0);
+    RowAuditor x = Tell.withHouses(0, 0);
     x.now(9);
     x.row(1, 0, 3, 5, 0, 10, 1, NONE, NONE);
     x.row(1, 0, 3, 2, 0, 20, 1, NONE, NONE);
@@ -704,9 +684,9 @@ public final class PromisesTest {
     }
     x.mend(0, 0);
     Due.is(18, "as known now", x.fits(pairs, 3999, 0), 3);
-    RowAuditor y = withHouses(0);
+    RowAuditor y = Tell.withHouses(0);
     for (int k = 0; k < 150; k++) {
-      pay(y, 0, 0, 0, 1000000, 0);
+      Tell.pay(y, 0, 0, 0, 1000000, 0);
     }
     int c = Due.chain(y, "(k=1);(k=1);(k=1);(k=1)");
     Due.is(18, "100000 at most", y.fits(c, 0, 4000000), 100000);
@@ -714,11 +694,11 @@ public final class PromisesTest {
   }
 
   private static void ways() {
-    RowAuditor x = withHouses(0);
+    RowAuditor x = Tell.withHouses(0);
     for (int k = 0; k < 5; k++) {
-      pay(x, 0, 0, 0, k < 3 ? 100 : 10, k < 2 ? 0 : 1);
+      Tell.pay(x, 0, 0, 0, k < 3 ? 100 : 10, k < 2 ? 0 : 1);
     }
-    sale(x, 0, 0, 0, 100, 0);
+    Tell.sale(x, 0, 0, 0, 100, 0);
     Due.rule(x, 5, 6, "x0.0;l(s>0);r(s>50);r(s<50)");
     long[] due = {3, 10, 2, 2, 5, 3};
     for (int what = 0; what < 6; what++) {
@@ -743,10 +723,10 @@ public final class PromisesTest {
     Due.is(21, "no such share", x.odd(0, 1, 0, 1001), NONE);
     x.mend(0, 0);
     Due.is(20, "as known now", x.ways(0, 1, 0, 4), 4);
-    RowAuditor y = withHouses(0);
+    RowAuditor y = Tell.withHouses(0);
     Due.rule(y, "r(w=0)");
     for (int k = 0; k < 50; k++) {
-      pay(y, 0, 0, 0, 1, k < 25 ? 0 : 1);
+      Tell.pay(y, 0, 0, 0, 1, k < 25 ? 0 : 1);
     }
     Due.is(20, "of fifty", y.ways(0, 1, 0, 1), 126410606437752L);
     Due.is(20, "one way", y.ways(0, 1, 0, 0), 1);
@@ -754,7 +734,7 @@ public final class PromisesTest {
     Due.is(21, "odd", y.odd(0, 1, 0, 1), 1);
     Due.is(21, "nothing is as odd as that", y.odd(0, 1, 0, 0), 0);
     Due.is(21, "not odd", y.odd(1, 1, 0, 999), 0);
-    pay(y, 0, 0, 0, 1, 0);
+    Tell.pay(y, 0, 0, 0, 1, 0);
     Due.is(20, "more than fifty", y.ways(0, 1, 0, 4), NONE);
     Due.is(21, "more than fifty", y.odd(0, 1, 0, 1000), NONE);
     y.mend(50, 0);
@@ -762,7 +742,7 @@ public final class PromisesTest {
   }
 
   private static void things() {
-    RowAuditor x = withHouses(0);
+    RowAuditor x = Tell.withHouses(0);
     Due.is(22, "hand", x.things(15, false, (1 << 30) - 1), true);
     Due.is(22, "payee", x.things(19, true, 0), true);
     Due.is(22, "no such hand", x.things(16, false, 0), false);
@@ -790,10 +770,10 @@ public final class PromisesTest {
       Due.is(23, "behind", x.behind(a[0], a[1] == 1, a[2], a[3] == 1), NONE);
     }
     Due.is(23, "payee 16 is one", x.behind(16, true, 16, true), 1);
-    pay(x, 0, 1, 0, 100, 9);
-    pay(x, 0, 4, 0, 50, 9);
-    pay(x, 0, 5, 0, 1000, 9);
-    sale(x, 0, 2, 0, 200, 9);
+    Tell.pay(x, 0, 1, 0, 100, 9);
+    Tell.pay(x, 0, 4, 0, 50, 9);
+    Tell.pay(x, 0, 5, 0, 1000, 9);
+    Tell.sale(x, 0, 2, 0, 200, 9);
     x.row(3, 0, NONE, 0, 0, 7, 0, NONE, NONE);
     Due.is(24, "grown", x.grown(0), -50);
     Due.is(24, "of one with it", x.grown(3), -50);
@@ -808,7 +788,7 @@ public final class PromisesTest {
   }
 
   private static void sample() {
-    RowAuditor x = withHouses(0);
+    RowAuditor x = Tell.withHouses(0);
     Due.is(25, "no row", x.sample(1, 0, 0), NONE);
     x.row(1, 0, 0, 0, 5, 300, 0, NONE, NONE);
     x.row(1, 0, 0, 0, 4, 200, 1, NONE, NONE);
@@ -839,8 +819,8 @@ public final class PromisesTest {
   }
 
   private static void askings() {
-    RowAuditor x = withHouses(0);
-    pay(x, 0, 0, 0, 10, 0);
+    RowAuditor x = Tell.withHouses(0);
+    Tell.pay(x, 0, 0, 0, 10, 0);
     x.now(5);
     int[][] wrong = {{-1, 0, 6}, {16, 0, 6}, {0, -1, 6}, {0, 1, 6}, {0, 0, 5}, {0, 0, 4}, {0, 0, 4000}};
     for (int[] a : wrong) {
@@ -881,7 +861,7 @@ public final class PromisesTest {
   }
 
   private static void ifFalse() {
-    RowAuditor x = withHouses(0);
+    RowAuditor x = Tell.withHouses(0);
     for (int k = 0; k < 6; k++) {
       x.row(1, 0, 0, 0, 0, 10, 5, k % 3 == 2 ? NONE : k % 3, NONE);
     }
@@ -901,9 +881,9 @@ public final class PromisesTest {
   }
 
   private static void putIn() {
-    RowAuditor x = withHouses(0);
+    RowAuditor x = Tell.withHouses(0);
     for (int k = 0; k < 3; k++) {
-      pay(x, 0, 0, 0, 10, k);
+      Tell.pay(x, 0, 0, 0, 10, k);
     }
     Due.rule(x, "r(w<2)");
     Due.is(30, "no such row", x.putIn(3), false);
@@ -962,7 +942,7 @@ public final class PromisesTest {
   }
 
   private static void look() {
-    RowAuditor x = withHouses(0, 0, 0);
+    RowAuditor x = Tell.withHouses(0, 0, 0);
     x.now(8);
     x.row(2, 2, 1, 7, 22, 333, 4, 5, 66);
     x.row(3, 1, NONE, 0, 0, 1, 0, NONE, NONE);
@@ -985,10 +965,10 @@ public final class PromisesTest {
   }
 
   private static void count() {
-    RowAuditor x = withHouses(1, 2);
+    RowAuditor x = Tell.withHouses(1, 2);
     x.now(3);
     for (int k = 0; k < 5; k++) {
-      pay(x, 0, 0, 0, 10, 0);
+      Tell.pay(x, 0, 0, 0, 10, 0);
     }
     Due.rule(x, "r(k=1);x0.0;l(k=2)");
     Due.rule(x, "r(k=1)");

@@ -193,11 +193,7 @@ public final class RandomRunsTest {
 
   private void feed(String text) {
     for (int p = 0; p < text.length() && p < 180; p += 20) {
-      int[] words = new int[5];
-      for (int k = 0; k < 20; k++) {
-        char c = p + k < text.length() ? text.charAt(p + k) : 0;
-        words[k / 4] = words[k / 4] << 8 | c;
-      }
+      int[] words = Due.words(text, p);
       same("feed(\"" + text.substring(p, Math.min(text.length(), p + 20)) + "\")",
           x.feed(words[0], words[1], words[2], words[3], words[4]), o.feed(words));
     }
