@@ -357,6 +357,34 @@ public final class MoneyBoundsTest {
     followed(y, 6, 0, 1000, 2000);
     followed(y, 6, 3, 0, 1000);
     followed(y, 5, 0, 0, 1000);
+    // Only 300 come by the second way, so only as many leave it to them.
+    RowAuditor few = Tell.withHouses(0, 0, 0, 0, 0, 1000, 2000);
+    Tell.move(few, 6, 5, 0, 1000);
+    Tell.move(few, 6, 4, 0, 300);
+    Tell.move(few, 5, 3, 0, 1000);
+    Tell.move(few, 5, 2, 0, 1000);
+    Tell.move(few, 4, 3, 0, 300);
+    Tell.move(few, 3, 0, 0, 1000);
+    Tell.move(few, 2, 1, 0, 1000);
+    Tell.move(few, 1, 0, 0, 1000);
+    followed(few, 6, 0, 1000, 1300);
+    followed(few, 6, 6, 700, 700);
+    // Two times 600 come by others: a thousand of them can, for only so many can leave it to them.
+    RowAuditor twice = Tell.withHouses(2200, 2000, 0, 0, 0, 0, 0, 0);
+    Tell.move(twice, 0, 1, 0, 1000);
+    Tell.move(twice, 0, 2, 0, 600);
+    Tell.move(twice, 0, 3, 0, 600);
+    Tell.move(twice, 1, 4, 0, 1000);
+    Tell.move(twice, 1, 5, 0, 2000);
+    Tell.move(twice, 2, 4, 0, 600);
+    Tell.move(twice, 3, 4, 0, 600);
+    Tell.move(twice, 4, 7, 0, 1000);
+    Tell.move(twice, 5, 6, 0, 2000);
+    Tell.move(twice, 6, 7, 0, 2000);
+    followed(twice, 0, 7, 1000, 2000);
+    followed(twice, 0, 4, 200, 1200);
+    followed(twice, 1, 7, 1000, 2000);
+    followed(twice, 1, 4, 0, 1000);
   }
 
   /** The last HOUSE gives and gets as the first one does. */
